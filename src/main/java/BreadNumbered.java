@@ -17,7 +17,6 @@ public final class BreadNumbered {
     private static final int PRIEST = 10;
     private static final int EATEN = 20;
     private static final int OLDEST = 99;
-    private static final int GREATEST_NUMBER = 99;
 
     private static final int DAYS_LOOKED_AHEAD = 200;
     private static final int DAYS_OF_HELP = 18;

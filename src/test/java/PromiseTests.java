@@ -25,6 +25,7 @@ public final class PromiseTests {
         faultOfNumbers();
         promise = "5";
         siege();
+        smallerSiege();
         siegeRefused();
         promise = "6";
         person();
@@ -47,6 +48,7 @@ public final class PromiseTests {
         dayOfDeath();
         promise = "13";
         night();
+        nightOfTwo();
         nightWithoutTheft();
         promise = "14";
         undo();
@@ -361,6 +363,39 @@ public final class PromiseTests {
         due("loaf(0, 4)", x.loaf(0, 4), NONE);
         due("loaf(0, 5)", x.loaf(0, 5), NONE);
         due("eat(0, 0)", x.eat(0, 0), 1);
+        due("lasts()", x.lasts(), 11);
+        due("siege() behind lasts()", x.siege(), 101);
+        due("count(4)", x.count(4), 0);
+        due("person(0, 4)", x.person(0, 4), 0);
+        due("person(0, 1)", x.person(0, 1), 1);
+    }
+
+    /** What a larger siege left behind is not seen in a smaller one. */
+    private static void smallerSiege() {
+        BreadNumbered x = sieged("S211P0P0P0P0P0L9900L9800L9709L9610L9520L9430L9340L9200L9100L9000");
+        for (int person = 0; person < 5; person++) {
+            due("may(" + person + ", 9)", x.may(person, 9), person == 0 ? 1 : 0);
+        }
+        due("eat(0, 0)", x.eat(0, 0), 99);
+        due("eat(1, 3)", x.eat(1, 3), 96);
+        due("lasts()", x.lasts(), 3);
+        due("first()", x.first(), 0);
+        x.day();
+        due("count(6)", x.count(6), 8);
+        tell(x, "S222P0P1L0211L0100");
+        due("siege()", x.siege(), 202);
+        due("count(3)", x.count(3), 3);
+        due("count(5)", x.count(5), 0);
+        due("count(6)", x.count(6), 0);
+        due("count(8)", x.count(8), 0);
+        due("missing(0)", x.missing(0), NONE);
+        due("person(0, 3)", x.person(0, 3), 2);
+        due("person(2, 0)", x.person(2, 0), UNKNOWN);
+        due("loaf(2, 0)", x.loaf(2, 0), UNKNOWN);
+        due("best()", x.best(), 3);
+        int thief = (int) (STEP >>> 33) % 2;
+        due("night(): the thief has the other's only loaf", x.night(), thief == 0 ? 0 : 11);
+        due("person(thief, 3)", x.person(thief, 3), 3);
     }
 
     private static void siegeRefused() {
@@ -484,12 +519,20 @@ public final class PromiseTests {
         due("may(0, 1)", x.may(0, 1), 0);
         BreadNumbered alike = sieged("S099P0L1900L1600");
         due("may(0, 0)", alike.may(0, 0), 0);
+        BreadNumbered ordered = sieged("S099P0P0L1000L2000L1510");
+        due("may(0, 0): the first loaf is the least", ordered.may(0, 0), 1);
+        due("may(0, 1): the first loaf is less", ordered.may(0, 1), 0);
+        due("may(1, 2): another holds the first", ordered.may(1, 2), 1);
         alike.cut(0);
         due("may(0, 0) of like numbers", alike.may(0, 0), 1);
         due("may(0, 1) of like numbers", alike.may(0, 1), 1);
     }
 
     private static void mayByLaw1() {
+        BreadNumbered ordered = sieged("S199P0P0L1000L2000L1510");
+        due("may(0, 0): the first loaf is the least", ordered.may(0, 0), 1);
+        due("may(0, 1): the first loaf is less", ordered.may(0, 1), 0);
+        due("may(1, 2): another holds the first", ordered.may(1, 2), 0);
         BreadNumbered x = sieged("S194P0P0L2000L1010L0510L0314");
         due("may(0, 0): others hold lesser ones", x.may(0, 0), 0);
         due("may(1, 1): it holds a lesser one", x.may(1, 1), 0);
@@ -694,6 +737,20 @@ public final class PromiseTests {
             due("loaf(4, 2)", x.loaf(4, 2), 1);
             due("seed(0)", x.seed(0), next);
         }
+    }
+
+    /** Two hold one loaf each: the thief has the other's, be it the first or the last. */
+    private static void nightOfTwo() {
+        int firstStolen = 0;
+        for (long seed = 0; seed < 40; seed++) {
+            BreadNumbered x = sieged("S219P0P0L9000L1010");
+            x.seed(seed);
+            int thief = (int) ((seed * FACTOR + STEP) >>> 33) % 2;
+            due("night() of two by seed " + seed, x.night(), thief == 0 ? 1 : 10);
+            due("person(thief, 3)", x.person(thief, 3), 3);
+            firstStolen += thief;
+        }
+        due("each of the two was the thief", firstStolen > 0 && firstStolen < 40 ? 1 : 0, 1);
     }
 
     private static void nightWithoutTheft() {
