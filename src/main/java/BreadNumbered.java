@@ -562,8 +562,10 @@ public final class BreadNumbered {
             seed = other.seed;
             people = other.people;
             System.arraycopy(other.fasted, 0, fasted, 0, MOST_PEOPLE);
-            System.arraycopy(other.ateToday, 0, ateToday, 0, MOST_PEOPLE);
             System.arraycopy(other.eatenCount, 0, eatenCount, 0, MOST_PEOPLE);
+            for (int person = 0; person < MOST_PEOPLE; person++) {
+                ateToday[person] = other.ateToday[person];
+            }
             loaves = other.loaves;
             System.arraycopy(other.number, 0, number, 0, MOST_LOAVES);
             System.arraycopy(other.holder, 0, holder, 0, MOST_LOAVES);

@@ -372,12 +372,14 @@ public final class PromiseTests {
 
     /** What a larger siege left behind is not seen in a smaller one. */
     private static void smallerSiege() {
-        BreadNumbered x = sieged("S211P0P0P0P0P0L9900L9800L9709L9610L9520L9430L9340L9200L9100L9000");
+        BreadNumbered x = sieged("S211P0P0P0P0P0L9900L9800L9710L9610L9520L9430L9340L9200L9100L9000");
         for (int person = 0; person < 5; person++) {
             due("may(" + person + ", 9)", x.may(person, 9), person == 0 ? 1 : 0);
         }
         due("eat(0, 0)", x.eat(0, 0), 99);
-        due("eat(1, 3)", x.eat(1, 3), 96);
+        due("count(5)", x.count(5), 1);
+        due("eat(1, 2)", x.eat(1, 2), 97);
+        due("count(5)", x.count(5), 2);
         due("lasts()", x.lasts(), 3);
         due("first()", x.first(), 0);
         x.day();
