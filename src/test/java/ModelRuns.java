@@ -9,8 +9,10 @@ import java.util.Map;
  * tries every meal for best(), and every ending of a text for fault().
  */
 public final class ModelRuns {
-    private static final int RUNS = 400;
-    private static final int CALLS = 250;
+    private static final int RUNS = 1000;
+    // The document promises 512 calls of an object; the dearest step and the last look take fewer than 200.
+    private static final int CALLS_OF_STEPS = 300;
+    private static final int CALLS_PROMISED = 512;
 
     private static int wrong = 0;
     private static long drawn = 20261118L;
@@ -85,8 +87,10 @@ public final class ModelRuns {
         return other.substring(0, Math.min(80, other.length()));
     }
 
-    private static void tell(BreadNumbered x, String text) {
+    /** How many calls it took. */
+    private static int tell(BreadNumbered x, String text) {
         x.wipe();
+        int calls = 1;
         for (int place = 0; place < text.length(); ) {
             int n = Math.min(1 + draw(8), text.length() - place);
             long v = draw(1000) - 500;
@@ -94,8 +98,10 @@ public final class ModelRuns {
                 v = v << 8 | text.charAt(place + i);
             }
             x.write(n, v);
+            calls++;
             place += n;
         }
+        return calls;
     }
 
     private static boolean isSiege(String text) {
@@ -451,6 +457,7 @@ public final class ModelRuns {
         List<World> row = new ArrayList<>();
         World[] slots = new World[2];
         String text = "";
+        int calls = 0;
 
         Run(int run) {
             this.run = run;
@@ -458,16 +465,27 @@ public final class ModelRuns {
 
         void go() {
             newSiege();
-            for (int call = 0; call < CALLS && wrong < 20; call++) {
+            // Runs that seldom look have the longest rows of acts.
+            int looks = 1 + draw(6);
+            while (calls < CALLS_OF_STEPS && wrong < 20) {
                 act();
-                look();
-                if (draw(12) == 0) {
+                if (draw(looks) == 0) {
+                    lookAtSome();
+                }
+                if (draw(20) == 0) {
                     lookAhead();
                 }
+            }
+            look();
+            lookAhead();
+            if (calls > CALLS_PROMISED) {
+                wrong++;
+                System.out.println("run " + run + " took " + calls + " calls");
             }
         }
 
         void due(String call, long got, long want) {
+            calls++;
             told.add(call);
             if (got != want) {
                 wrong++;
@@ -478,7 +496,7 @@ public final class ModelRuns {
 
         void newSiege() {
             text = draw(4) == 0 ? spoilt(someText()) : someText();
-            tell(x, text);
+            calls += tell(x, text);
             told.add(text);
             if (isSiege(text)) {
                 due("siege()", x.siege(), text.replaceAll("[^P]", "").length() * 100 + text.replaceAll("[^L]", "").length());
@@ -611,33 +629,47 @@ public final class ModelRuns {
         }
 
         void look() {
-            int size = told.size();
-            int aliveBits = world.alive().stream().mapToInt(p -> 1 << p).sum();
+            lookAtCounts();
+            for (int p = 0; p < world.people.size(); p++) {
+                lookAtPerson(p);
+            }
+            for (int l = 0; l < world.loaves.size(); l++) {
+                lookAtLoaf(l);
+            }
+        }
+
+        void lookAtSome() {
+            int what = draw(3);
+            if (what == 0) {
+                lookAtCounts();
+            } else if (what == 1 && !world.people.isEmpty()) {
+                lookAtPerson(draw(world.people.size()));
+            } else if (!world.loaves.isEmpty()) {
+                lookAtLoaf(draw(world.loaves.size()));
+            }
+        }
+
+        void lookAtCounts() {
             due("count(0)", x.count(0), text.length());
             due("count(1)", x.count(1), world.people.size());
             due("count(2)", x.count(2), world.loaves.size());
-            due("count(3)", x.count(3), aliveBits);
+            due("count(3)", x.count(3), world.alive().stream().mapToInt(p -> 1 << p).sum());
             due("count(4)", x.count(4), world.day);
             due("count(5)", x.count(5), world.loaves.stream().filter(l -> l.where == 20).count());
             due("count(6)", x.count(6), world.loaves.stream().filter(l -> l.where != 20 && !world.good(l)).count());
             due("count(7)", x.count(7), row.size());
             due("count(8)", x.count(8), world.missing().size());
             due("count(9)", x.count(9), world.law);
-            for (int p = 0; p < world.people.size(); p++) {
-                lookAtPerson(p);
-            }
-            for (int l = 0; l < world.loaves.size(); l++) {
-                Loaf loaf = world.loaves.get(l);
-                due("loaf(" + l + ", 0)", x.loaf(l, 0), loaf.number);
-                due("loaf(" + l + ", 1)", x.loaf(l, 1), loaf.where);
-                due("loaf(" + l + ", 2)", x.loaf(l, 2), loaf.age);
-                due("loaf(" + l + ", 3)", x.loaf(l, 3), world.good(loaf) ? 0 : 1);
-                due("loaf(" + l + ", 4)", x.loaf(l, 4), loaf.by);
-                due("loaf(" + l + ", 5)", x.loaf(l, 5), loaf.on);
-            }
-            while (told.size() > size) {
-                told.remove(told.size() - 1);
-            }
+        }
+
+        void lookAtLoaf(int l) {
+            Loaf loaf = world.loaves.get(l);
+            due("loaf(" + l + ", 0)", x.loaf(l, 0), loaf.number);
+            due("loaf(" + l + ", 1)", x.loaf(l, 1), loaf.where);
+            due("loaf(" + l + ", 2)", x.loaf(l, 2), loaf.age);
+            due("loaf(" + l + ", 3)", x.loaf(l, 3), world.good(loaf) ? 0 : 1);
+            due("loaf(" + l + ", 4)", x.loaf(l, 4), loaf.by);
+            due("loaf(" + l + ", 5)", x.loaf(l, 5), loaf.on);
         }
 
         void lookAtPerson(int p) {
@@ -660,7 +692,7 @@ public final class ModelRuns {
             due("first()", x.first(), lasts[1]);
             due("best()", x.best(), world.best());
             List<Integer> missing = world.missing();
-            for (int i = -1; i <= missing.size() + 1; i++) {
+            for (int i : new int[] {-1, 0, draw(missing.size() + 1), missing.size() - 1, missing.size()}) {
                 due("missing(" + i + ")", x.missing(i), i < 0 || i >= missing.size() ? -9 : missing.get(i));
             }
             int tenths = draw(11);
