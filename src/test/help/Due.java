@@ -121,9 +121,16 @@ final class Due {
     }
 
     private static void unchanged(Setup setup, String call, BreadNumbered x) {
-        String without = allOf(setup.make());
+        alike(call + " changed something", x, setup.make());
+    }
+
+    /** Both answer alike, whatever is asked; both are used up by it. */
+    static void alike(String otherwise, BreadNumbered x, BreadNumbered y) {
         String with = allOf(x);
-        holds(call + " changed something: " + firstDifference(with, without), with.equals(without));
+        String without = allOf(y);
+        if (!with.equals(without)) {
+            fails(otherwise + ": " + firstDifference(with, without));
+        }
     }
 
     private static String firstDifference(String with, String without) {
@@ -140,7 +147,7 @@ final class Due {
     }
 
     /** All that x answers, and what undo(), again() and siege() lead back to; x is used up by it. */
-    static String allOf(BreadNumbered x) {
+    private static String allOf(BreadNumbered x) {
         StringBuilder all = new StringBuilder();
         look(x, all);
         all.append("; undone");

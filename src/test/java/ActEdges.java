@@ -724,6 +724,11 @@ public final class ActEdges {
             }
         }
         for (long seed : seeds(60)) {
+            // In the order in which they were told, whatever their NUMBERS are.
+            nightDue("S299P0P0L9000L8010L7000L6010L5000L4010L3000L2010L1000L0110", seed, new int[] {0, 1}, TWO);
+            nightDue("S299P0P0L5000L6010L4000L7010L3000L8010", seed, new int[] {0, 1}, new int[] {0, 1, 0, 1, 0, 1});
+        }
+        for (long seed : seeds(60)) {
             // The eaten one and the priest's are none: 1 alone can be stolen by 0, 3 alone by 1.
             BreadNumbered x = Due.sieged("S299P0P0L0100L1010L2010L3000");
             x.eat(0, 0);
@@ -746,7 +751,7 @@ public final class ActEdges {
             x.again(0);
             seeded.seed(Due.STEP);
             seeded.keep(0);
-            Due.holds("night() of " + text + " changes nothing else", Due.allOf(x).equals(Due.allOf(seeded)));
+            Due.alike("night() of " + text + " changed something else", x, seeded);
         }
     }
 

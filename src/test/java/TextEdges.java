@@ -1,6 +1,7 @@
 /** The edges of THE TEXT and THE SIEGE: a test for each sentence that names one. Promises 1 to 5. */
 public final class TextEdges {
     private static final int STATE = Due.STATE, OUTSIDE = Due.OUTSIDE, FULL = Due.FULL, NONE = Due.NONE;
+    private static final int PRIEST = Due.PRIEST;
     private static final int[] ODD = {-1, 256, Integer.MIN_VALUE, Integer.MIN_VALUE + 8, Integer.MAX_VALUE};
 
     public static void main(String[] args) throws Exception {
@@ -34,6 +35,7 @@ public final class TextEdges {
         notAtItsEnd();
         noFault();
         textStays();
+        nothingOfTheFormer();
         rowAndSlotsGo();
         seedStays();
         hundredTimesPeople();
@@ -77,8 +79,7 @@ public final class TextEdges {
         BreadNumbered told = Due.sieged("S099");
         told.wipe();
         Due.due("count(9)", new BreadNumbered().count(9), 0);
-        String atFirst = Due.allOf(new BreadNumbered());
-        Due.holds("a new object is as one of S099: " + atFirst, atFirst.equals(Due.allOf(told)));
+        Due.alike("a new object is not as one of S099", new BreadNumbered(), told);
     }
 
     private static void dayAtFirst() throws Exception {
@@ -93,9 +94,13 @@ public final class TextEdges {
         Due.due("count(4) behind siege()", x.count(4), 0);
         x.day();
         x.day();
+        Due.due("lasts(), which looks at days ahead", x.lasts(), 8);
+        x.siege();
+        Due.due("count(4) behind siege() once more", x.count(4), 0);
+        x.day();
         Due.tell(x, "S1");
         x.siege();
-        Due.due("count(4) behind a refused siege()", x.count(4), 2);
+        Due.due("count(4) behind a refused siege()", x.count(4), 1);
     }
 
     // ---- promises 2 and 3
@@ -389,6 +394,17 @@ public final class TextEdges {
         faultDue(eight + "L1000L08", 53);
         faultDue("S055P0L1000L1100L1200L1300L1400L1500L1600L1700L1800L1", 53);
         faultDue("S055P0L1000L1100L1200L1300L1400L1500L1600L1700L1800L19", 54);
+        // Of each other ten the one with a 0 is left when all nine others are told.
+        for (int tens = 1; tens <= 9; tens++) {
+            StringBuilder nine = new StringBuilder("S055P0");
+            for (int units = 1; units <= 9; units++) {
+                nine.append('L').append(tens).append(units).append("00");
+            }
+            faultDue(nine + "L" + tens, 53);
+            faultDue(nine + "L" + tens + "0", 54);
+            faultDue(nine + "L" + tens + "000", NONE);
+            faultDue(nine + "L" + tens + "9", 53);
+        }
     }
 
     private static void lengthSetAside() throws Exception {
@@ -443,6 +459,28 @@ public final class TextEdges {
         Due.due("count(1) till siege()", x.count(1), 1);
         Due.due("siege() of more", x.siege(), 201);
         Due.due("count(0)", x.count(0), 13);
+    }
+
+    private static void nothingOfTheFormer() throws Exception {
+        Due.sentence("THE TEXT (that stays as it is) is THE SIEGE");
+        String[] texts = {"S255P1L0101", "S123P0P1P2L9910L5023", "S099"};
+        for (String text : texts) {
+            BreadNumbered x = Due.sieged("S212P0P1P0P1P0L9900L9810L9721L9630L9540L9400L9310L9240L9102L9030");
+            x.eat(0, 0);
+            x.eat(1, 1);
+            x.cut(2);
+            x.give(3, PRIEST);
+            x.day();
+            x.eat(4, 4);
+            x.night();
+            x.keep(0);
+            x.keep(1);
+            x.lasts();
+            x.seed(0);
+            Due.tell(x, text);
+            x.siege();
+            Due.alike(text + " made anew is not as at first", x, Due.sieged(text));
+        }
     }
 
     private static void rowAndSlotsGo() throws Exception {
