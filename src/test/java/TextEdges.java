@@ -195,6 +195,14 @@ public final class TextEdges {
         Due.due("fault() of none", x.fault(), 0);
         Due.due("write(8) behind it", x.write(8, 0x53303939_50305031L), 8);
         Due.due("fault() behind it", x.fault(), NONE);
+        // What was wiped is not read behind a shorter text.
+        for (int length = 0; length < Due.GREATEST.length(); length++) {
+            String text = Due.GREATEST.substring(0, length);
+            BreadNumbered shorter = Due.told(Due.GREATEST);
+            Due.tell(shorter, text);
+            Due.due("fault() of " + text + " behind a longer one", shorter.fault(), Due.told(text).fault());
+            Due.due("siege() of it", shorter.siege(), Due.told(text).siege());
+        }
     }
 
     // ---- promise 4: figures
