@@ -803,10 +803,12 @@ public final class BreadNumbered {
             for (int person = 0; person < people; person++) {
                 if (isAlive(person)) {
                     int fedOn = ateToday[person] ? 0 : -1 - fasted[person];
-                    for (int meal = lastMeal; meal > fedOn; meal -= lives + 1) {
+                    int meal = lastMeal;
+                    for (int meals = 0; meals < DAYS_LOOKED_AHEAD && meal > fedOn; meals++) {
                         if (Math.max(meal, 0) >= from) {
                             due++;
                         }
+                        meal -= lives + 1;
                     }
                 }
             }

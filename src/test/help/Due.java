@@ -3,8 +3,8 @@ import java.nio.file.Files;
 import java.nio.file.Path;
 
 /**
- * What the tests by sentence share. A test says which sentence of the document it holds; the words
- * must stand there, so that no test outlives its sentence unseen.
+ * What the tests by sentence share. A test says which sentence of the document (or of the rules for
+ * its Java) it holds; the words must stand there, so that no test outlives its sentence unseen.
  */
 final class Due {
     static final int UNKNOWN = -1, OUTSIDE = -2, STATE = -3, FULL = -4, NONE = -9;
@@ -17,9 +17,11 @@ final class Due {
             "S099P0P1P2P3P4L0100L1011L2022L3033L4044L5005L6016L7027L8038L9949";
 
     private static final Path DOCUMENT = Path.of("..", "shared", "DOC.md");
+    private static final Path RULES = Path.of("..", "shared", "LANGUAGE.md");
     private static final int MOST_TOLD = 40;
 
     private static String document = "";
+    private static String rules = "";
     private static String sentence = "";
     private static int wrong = 0;
 
@@ -37,12 +39,38 @@ final class Due {
     /** The sentence that is held by all that is asked from here on. */
     static void sentence(String words) throws Exception {
         if (document.isEmpty()) {
-            document = inOneLine(Files.readString(DOCUMENT, StandardCharsets.UTF_8));
+            document = inOneLine(read(DOCUMENT));
         }
+        begins(words, document, DOCUMENT);
+    }
+
+    /** Likewise a rule of the Java that the class keeps to. */
+    static void rule(String words) throws Exception {
+        if (rules.isEmpty()) {
+            rules = inOneLine(read(RULES));
+        }
+        begins(words, rules, RULES);
+    }
+
+    /** What is asked from here on, where no sentence of the document asks it. */
+    static void about(String what) {
+        sentence = what;
+    }
+
+    private static void begins(String words, String whole, Path file) {
         sentence = words;
-        if (!document.contains(inOneLine(words))) {
-            fails("these words do not stand in " + DOCUMENT);
+        if (!whole.contains(inOneLine(words))) {
+            fails("these words do not stand in " + file);
         }
+    }
+
+    /** The document as it stands, line by line. */
+    static String document() throws Exception {
+        return read(DOCUMENT);
+    }
+
+    static String read(Path file) throws Exception {
+        return Files.readString(file, StandardCharsets.UTF_8);
     }
 
     private static String inOneLine(String text) {
